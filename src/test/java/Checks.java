@@ -129,4 +129,13 @@ final class Checks {
         text.append(registry.mergedCount()).append(' ').append(registry.brokenCount());
         return text.toString();
     }
+
+    /** Where all people stand in the orders of succession of their families. */
+    static String positions(HabitRegistry registry) {
+        StringBuilder text = new StringBuilder();
+        for (int person = 0; person < registry.peopleCount(); person++) {
+            text.append(registry.successionPosition(person)).append(' ').append(registry.generation(person)).append(' ');
+        }
+        return text.toString();
+    }
 }

@@ -11,6 +11,7 @@ public final class HistoryTest {
         undoAfterUndo();
         undoAndTheRest();
         snapshots();
+        snapshotOfOtherPeople();
         snapshotAndTheRest();
         CHECKS.end();
     }
@@ -58,24 +59,30 @@ public final class HistoryTest {
         CHECKS.due("input", 2, registry.appendInput(';'));
     }
 
+    /** A change that is asked for on the registry that it is given. */
+    private interface Change {
+        int makeOn(HabitRegistry registry);
+    }
+
     private static void undoOfEveryChange() {
-        String setting = "f;c0;c1;a0d5;a1s6;a0s9;e0;p1;y1;f;b3";
-        HabitRegistry registry = Checks.after(setting);
-        Checks.Call[] changes = {registry::addFounder, () -> registry.addChild(0), () -> registry.bury(0),
-            () -> registry.addHabit(2, 'h', 3), () -> registry.practise(0), () -> registry.neglect(1),
-            () -> registry.entail(1), () -> registry.breakEntail(0), () -> registry.give(1, 2),
-            () -> registry.passYears(9), () -> Checks.execute(registry, "f;c1;b2;a1h9;y1")};
-        String before = Checks.data(registry);
+        Change[] changes = {HabitRegistry::addFounder, registry -> registry.addChild(0), registry -> registry.bury(0),
+            registry -> registry.addHabit(2, 'h', 3), registry -> registry.practise(0),
+            registry -> registry.neglect(1), registry -> registry.entail(1), registry -> registry.breakEntail(0),
+            registry -> registry.give(1, 2), registry -> registry.passYears(9),
+            registry -> Checks.execute(registry, "f;c1;b2;a1h9;y1")};
         for (int change = 0; change < changes.length; change++) {
-            changes[change].answer();
+            HabitRegistry registry = Checks.after("f;c0;c1;a0d5;a1s6;a0s9;e0;p1;y1;f;b3");
+            String before = Checks.data(registry);
+            String positions = Checks.positions(registry);
+            changes[change].makeOn(registry);
             CHECKS.due("change " + change + " counts", 2, registry.undoCount());
             CHECKS.due("change " + change + " changes the data", false, before.equals(Checks.data(registry)));
             CHECKS.due("undo of change " + change, 1, registry.undo());
             CHECKS.dueText("data after undo of change " + change, before, Checks.data(registry));
+            CHECKS.dueText("positions after undo of change " + change, positions, Checks.positions(registry));
+            CHECKS.due("a person added then takes the index", 4, registry.addChild(0));
+            CHECKS.due("and stands behind the first child", 3, registry.successionPosition(4));
         }
-        CHECKS.due("positions are undone too", 2, registry.successionPosition(2));
-        registry.addChild(0);
-        CHECKS.due("a new person takes the same index", 3, registry.successionPosition(4));
     }
 
     private static void undoLimit() {
@@ -155,6 +162,19 @@ public final class HistoryTest {
         empty.addFounder();
         CHECKS.due("is restored too", 0, empty.restoreSnapshot());
         CHECKS.dueText("as it was", "0 0 0 0", Checks.data(empty));
+    }
+
+    private static void snapshotOfOtherPeople() {
+        HabitRegistry registry = new HabitRegistry();
+        Checks.execute(registry, "f;c0;c1;c0;f;a0d1;a1s2;a2h9;e0");
+        registry.saveSnapshot();
+        String saved = Checks.data(registry);
+        String positions = Checks.positions(registry);
+        registry.undo();
+        Checks.execute(registry, "f;f;c1;c0;c3;a0h9;a1h8;a2d7;a3d6;y1");
+        CHECKS.due("people restored", 5, registry.restoreSnapshot());
+        CHECKS.dueText("data restored", saved, Checks.data(registry));
+        CHECKS.dueText("positions restored", positions, Checks.positions(registry));
     }
 
     private static void snapshotAndTheRest() {

@@ -79,12 +79,12 @@ public final class YearsAndTotalsTest {
     }
 
     private static void habitsInOrder() {
-        HabitRegistry registry = Checks.after("f;f;a0d3;a1d9;a0s1;a1s3;a0h9;n2;a1h1");
-        int[] due = {1, 4, 0, 3, 5};
+        HabitRegistry registry = Checks.after("f;f;f;a0d3;a1d9;a0s1;a1s3;a0h9;n2;a1h1;a2d4");
+        int[] due = {1, 4, 6, 0, 3, 5};
         for (int position = 0; position < due.length; position++) {
             CHECKS.due("habit at " + position, due[position], registry.habitByStrength(position));
         }
-        CHECKS.noElement("extinct habits are left out", () -> registry.habitByStrength(5));
+        CHECKS.noElement("extinct habits are left out", () -> registry.habitByStrength(6));
         CHECKS.noElement("habit at -1", () -> registry.habitByStrength(-1));
         CHECKS.noElement("habit at the highest int", () -> registry.habitByStrength(Integer.MAX_VALUE));
         CHECKS.noElement("no habits", () -> new HabitRegistry().habitByStrength(0));
@@ -108,8 +108,8 @@ public final class YearsAndTotalsTest {
     }
 
     private static void means() {
-        HabitRegistry registry = Checks.after("f;f;a0d3;a1d9;a0s1;a1s2;n2");
-        CHECKS.dueExactly("mean of 14 and 3", 14.0 / 3.0, registry.meanStrength());
+        HabitRegistry registry = Checks.after("f;f;a0d3;a1d9;a0s1;a1s1;n2");
+        CHECKS.dueExactly("mean of three", 13.0 / 3.0, registry.meanStrength());
         registry.bury(0);
         registry.bury(1);
         CHECKS.badArithmetic("all are extinct", () -> (long) registry.meanStrength());
