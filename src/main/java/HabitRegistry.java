@@ -760,10 +760,12 @@ public final class HabitRegistry {
         }
 
         void copyFrom(People other) {
-            System.arraycopy(other.parents, 0, parents, 0, MAX_PEOPLE);
-            System.arraycopy(other.depths, 0, depths, 0, MAX_PEOPLE);
-            System.arraycopy(other.living, 0, living, 0, MAX_PEOPLE);
-            System.arraycopy(other.order, 0, order, 0, MAX_PEOPLE);
+            for (int person = 0; person < MAX_PEOPLE; person++) {
+                parents[person] = other.parents[person];
+                depths[person] = other.depths[person];
+                living[person] = other.living[person];
+                order[person] = other.order[person];
+            }
             count = other.count;
         }
     }
@@ -996,11 +998,13 @@ public final class HabitRegistry {
         }
 
         void copyFrom(Habits other) {
-            System.arraycopy(other.kinds, 0, kinds, 0, MAX_HABITS);
-            System.arraycopy(other.strengths, 0, strengths, 0, MAX_HABITS);
-            System.arraycopy(other.holders, 0, holders, 0, MAX_HABITS);
-            System.arraycopy(other.entails, 0, entails, 0, MAX_HABITS);
-            System.arraycopy(other.practices, 0, practices, 0, MAX_HABITS);
+            for (int habit = 0; habit < MAX_HABITS; habit++) {
+                kinds[habit] = other.kinds[habit];
+                strengths[habit] = other.strengths[habit];
+                holders[habit] = other.holders[habit];
+                entails[habit] = other.entails[habit];
+                practices[habit] = other.practices[habit];
+            }
             count = other.count;
             lapsed = other.lapsed;
             merged = other.merged;
@@ -1313,7 +1317,7 @@ public final class HabitRegistry {
         private int offset;
 
         /** A command takes a sign at least, so there are never more commands than signs. */
-        private final char[] letters = new char[MAX_INPUT];
+        private final int[] letters = new int[MAX_INPUT];
         private final int[] firsts = new int[MAX_INPUT];
         private final char[] kinds = new char[MAX_INPUT];
         private final int[] seconds = new int[MAX_INPUT];
@@ -1334,7 +1338,7 @@ public final class HabitRegistry {
             length = 0;
         }
 
-        char letter(int command) {
+        int letter(int command) {
             return command >= 0 && command < count ? letters[command] : ' ';
         }
 
@@ -1378,7 +1382,7 @@ public final class HabitRegistry {
             }
             offset++;
             letters[command] = letter;
-            switch (letter) {
+            switch (letters[command]) {
                 case 'f':
                     return true;
                 case 'y':
