@@ -62,14 +62,23 @@ public final class ConsistencyTest {
     }
 
     private static void spoilHolders() throws ReflectiveOperationException {
-        HabitRegistry registry = family();
-        numbers(registry, "habits", "holders")[0] = 1;
-        dueSpoiled("a dead holder", registry);
+        for (int habit = 0; habit < 2; habit++) {
+            for (int holder : new int[] {1, -1, 6, 15, 16, Integer.MAX_VALUE}) {
+                HabitRegistry registry = family();
+                numbers(registry, "habits", "holders")[habit] = holder;
+                dueSpoiled("habit " + habit + " held by " + holder + ", who is dead or not there", registry);
+            }
+        }
     }
 
     private static void spoilKinds() throws ReflectiveOperationException {
         HabitRegistry registry = family();
         ((char[]) part(registry, "state", "habits", "kinds"))[1] = 'd';
         dueSpoiled("two habits of one kind", registry);
+        HabitRegistry last = family();
+        last.addHabit(5, 'h', 1);
+        last.addHabit(5, 's', 1);
+        ((char[]) part(last, "state", "habits", "kinds"))[3] = 's';
+        dueSpoiled("the last two habits are of one kind", last);
     }
 }
