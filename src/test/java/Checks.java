@@ -63,6 +63,11 @@ final class Checks {
         dueText(what, ArithmeticException.class.getName(), outcome(call));
     }
 
+    /** Both calls answer the same, or throw the same exception. */
+    void alike(String what, Call want, Call got) {
+        dueText(what, outcome(want), outcome(got));
+    }
+
     /** The call is rejected with this reason and this detail. */
     void rejected(String what, HabitRegistry registry, int reason, int detail, Call call) {
         dueText(what, UnsupportedOperationException.class.getName(), outcome(call));
